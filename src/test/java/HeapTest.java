@@ -5,6 +5,7 @@ public final class HeapTest {
     public static void main(String[] args) {
         usedCountsWhatWasMade();
         everyKindOfRootKeepsCells();
+        everyInstructionPutsRoots();
         cellsAreReachedByLeftAndRight();
         collectsOnlyWhenThereIsNoRoom();
         ringsAreCollected();
@@ -54,6 +55,30 @@ public final class HeapTest {
             waits(3, "PUSH 1, NEW, STORE 2, PUSH 2, NEW, STORE 3, PUSH 3, NEW, PUSH 4, NEW" + WAIT).state(0), 9);
     }
 
+    private static void everyInstructionPutsRoots() {
+        // The cell is held by the stack alone when a NEW has to collect; then it must still be the one it was.
+        String collect = ", PUSH 7, NEW, POP, PUSH 8, NEW, POP, STORE 2" + WAIT;
+        String[] ways = {
+            "PUSH 1, NEW", "PUSH 1, NEW, STORE 2, LOAD 2, NIL, STORE 2", "PUSH 1, NEW, STORE 3, LOAD 3, NIL, STORE 3",
+            "PUSH 1, NEW, DUP, STORE 2, NIL, STORE 2"};
+        for (String way : ways) {
+            keepsTheCell(way, waits(2, way + collect), 2);
+        }
+        for (int part = 1; part <= 2; part++) {
+            String way = "PUSH 2, NEW, DUP, PUSH 1, NEW, SET " + part + ", GET " + part;
+            keepsTheCell(way, waits(3, way + ", PUSH 6, NEW, POP" + collect), 3);
+        }
+        keepsTheCell("RECEIVE", waits(3, "PUSH 1, NEW, SEND 0, POP, RECEIVE" + collect), 2);
+        counts("two on the stack", waits(3, "PUSH 1, NEW, PUSH 2, NEW" + collect), 3, 2, 1);
+        counts("five on the stack",
+            waits(5, "PUSH 1, NEW, PUSH 2, NEW, PUSH 3, NEW, PUSH 4, NEW, PUSH 5, NEW" + WAIT), 5, 5, 0);
+    }
+
+    private static void keepsTheCell(String way, TenantHost host, int used) {
+        counts(way, host, used, 1, 1);
+        Check.due("num after " + way, host.look(0, 0, 0), 1);
+    }
+
     private static void cellsAreReachedByLeftAndRight() {
         for (int part = 1; part <= 2; part++) {
             // Each turn puts the chain that is in local 2 below a new cell.
@@ -98,9 +123,10 @@ public final class HeapTest {
     }
 
     private static void numbersAreNoRoots() {
+        // The stack has held references where it then holds the number.
         for (int number = 0; number < 64; number++) {
-            TenantHost host = waits(2, "PUSH 1, NEW, POP, PUSH 2, NEW, POP, PUSH " + number + ", DUP, STORE 0, PUSH "
-                + number + ", STORE 1" + WAIT);
+            TenantHost host = waits(2, "NIL, NIL, NIL, POP, POP, POP, PUSH 1, NEW, POP, PUSH 2, NEW, POP, PUSH " + number
+                + ", DUP, DUP, STORE 0, PUSH " + number + ", STORE 1" + WAIT);
             counts("the number " + number, host, 2, 0, 0);
         }
         counts("a num in a cell", waits(3, "PUSH 9, NEW, STORE 2, PUSH 10, NEW, POP, PUSH 11, NEW, POP" + WAIT), 3, 1, 0);

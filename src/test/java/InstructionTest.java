@@ -88,6 +88,15 @@ public final class InstructionTest {
             Check.due("right", host.look(1, 1, 1), 5);
             Check.due("same cell", host.output(1, 0), 1);
         }
+        for (int part = 1; part <= 2; part++) {
+            TenantHost host = new TenantHost(8);
+            host.share(5, -1, -1);
+            Code.launched(host, 0, 1, 50, "SHARED 0, GET " + part + ", NIL, SAME, OUT, SHARED 0, GET " + part
+                + ", GET 0, OUT, HALT");
+            host.run(8);
+            Check.due("number -1 is null", host.output(0, 0), 1);
+            Check.due("and has no num", host.state(0), 7);
+        }
         TenantHost host = new TenantHost(8);
         Code.launched(host, 0, 1, 50, "SHARED 0, NIL, SAME, OUT, SHARED 0, GET 0, OUT, HALT");
         host.run(0);

@@ -97,6 +97,9 @@ public final class SealTest {
             full.append(i < 23 ? ", POP" : ", HALT");
         }
         sound(full.toString());
+        sound("PUSH 1, POP, ".repeat(11) + "PUSH 1, HALT");
+        broken("PUSH 1, POP, ".repeat(11) + "PUSH 1, ZERO 0");
+        sound("IN, ZERO 0, ".repeat(11) + "NIL, HALT");
     }
 
     private static void stacksMayNotDiffer() {
