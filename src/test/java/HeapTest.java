@@ -40,7 +40,7 @@ public final class HeapTest {
     }
 
     private static void everyKindOfRootKeepsCells() {
-        // Two cells that are kept each in its own way, and a third NEW that has to collect in a heap of three.
+        // One cell that is kept in some way, and two that are dropped: the last NEW has to collect.
         String more = ", PUSH 7, NEW, POP, PUSH 8, NEW, POP" + WAIT;
         counts("local 2", waits(2, "PUSH 1, NEW, STORE 2" + more), 2, 1, 1);
         counts("local 3", waits(2, "PUSH 1, NEW, STORE 3" + more), 2, 1, 1);
