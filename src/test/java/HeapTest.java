@@ -149,28 +149,22 @@ public final class HeapTest {
 
     private static void fullHeapOfTwentyFour() {
         for (int part = 1; part <= 2; part++) {
-            TenantHost host = new TenantHost(8);
-            // Every new cell goes below the last one, so that the chain runs the way in which cells are made.
-            Code.launched(host, 0, 24, 3000, "PUSH 1, NEW, DUP, STORE 2, STORE 3, PUSH 2, NEW, STORE 2, "
-                + "LOAD 3, LOAD 2, SET " + part + ", JUMP 12, LOAD 2, PUSH 5, NEW, DUP, STORE 2, SET " + part
-                + ", JUMP 12");
-            for (int i = 0; i < 200 && host.used(0) < 24; i++) {
-                host.run(1);
-            }
-            Check.due("used", host.used(0), 24);
-            Check.due("live", host.live(0), 24);
-            host.run(200);
-            Check.due("memory", host.state(0), 9);
-            // The same chain from its lower end up.
-            TenantHost up = new TenantHost(8);
-            Code.launched(up, 0, 24, 3000, "PUSH 1, NEW, DUP, LOAD 2, SET " + part + ", STORE 2, JUMP 0");
-            for (int i = 0; i < 200 && up.used(0) < 24; i++) {
-                up.run(1);
-            }
-            Check.due("used", up.used(0), 24);
-            Check.due("live", up.live(0), 24);
-            up.run(200);
-            Check.due("memory", up.state(0), 9);
+            fillsTheHeap("PUSH 1, NEW, DUP, STORE 2, STORE 3, JUMP 6, LOAD 2, PUSH 5, NEW, DUP, STORE 2, SET " + part
+                + ", JUMP 6");
+            fillsTheHeap("PUSH 1, NEW, DUP, LOAD 2, SET " + part + ", STORE 2, JUMP 0");
         }
+    }
+
+    /** Chains that grow at their lower and at their upper end: the live ones must be found in either order. */
+    private static void fillsTheHeap(String text) {
+        TenantHost host = new TenantHost(8);
+        Code.launched(host, 0, 24, 3000, text);
+        for (int i = 0; i < 200 && host.used(0) < 24; i++) {
+            host.run(1);
+        }
+        Check.due("used by " + text, host.used(0), 24);
+        Check.due("live by " + text, host.live(0), 24);
+        host.run(200);
+        Check.due("memory by " + text, host.state(0), 9);
     }
 }
