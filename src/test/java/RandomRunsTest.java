@@ -4,7 +4,10 @@ import java.util.Random;
 
 /** Runs of random calls, the same at every start, on the program and on the model: their answers must agree. */
 public final class RandomRunsTest {
-    private static final int RUNS = 3000;
+    private static final int RUNS = 12000;
+    /** Nothing is promised of an object after so many calls; the last ones of each run ask for all there is. */
+    private static final int MOST_CALLS = 512;
+    private static final int LAST_CALLS = 60;
     // What is here more than once is chosen more often: most programs shall live long and fill their heaps.
     private static final String[] POOL = ("PUSH PUSH PUSH ADD SUB MUL DIV LESS LOAD LOAD LOAD LOAD STORE STORE STORE DUP "
         + "POP NEW NEW NEW NEW NEW NEW GET SET SET SET SAME NIL SHARED ZERO OUT IN IN SEND SEND SEND RECEIVE RECEIVE START "
@@ -14,6 +17,7 @@ public final class RandomRunsTest {
     private final TenantHost host;
     private final Model model;
     private final String name;
+    private int calls = 0;
 
     private RandomRunsTest(int seed) {
         random = new Random(seed);
@@ -40,18 +44,27 @@ public final class RandomRunsTest {
         for (int t = 0; t < 4; t++) {
             setUp(t);
         }
-        for (int i = 0; i < 40; i++) {
+        while (calls < MOST_CALLS - LAST_CALLS - 16) {
             anyCall();
-            compareTenants();
+            for (int i = 0; i < 5; i++) {
+                ask(nearly(4), random.nextInt(11));
+            }
         }
+        for (int t = 0; t < 4; t++) {
+            for (int question = 0; question < 11; question++) {
+                ask(t, question);
+            }
+        }
+        Check.yes(name + "at most 512 calls", calls <= MOST_CALLS);
     }
 
     private void due(String call, long got, long want) {
+        calls++;
         Check.due(name + call, got, want);
     }
 
     private void due(String call, boolean got, boolean want) {
-        Check.due(name + call, got ? 1 : 0, want ? 1 : 0);
+        due(call, got ? 1 : 0, want ? 1 : 0);
     }
 
     /** Mostly one of the count; now and then a number beside them. */
@@ -120,7 +133,8 @@ public final class RandomRunsTest {
 
     private void seal(int p) {
         due("seal(" + p + ")", host.seal(p), model.seal(p));
-        for (int i = -1; i <= 24; i++) {
+        for (int k = 0; k < 8; k++) {
+            int i = random.nextInt(26) - 1;
             due("shape(" + p + ", " + i + ")", host.shape(p, i), model.shape(p, i));
         }
     }
@@ -133,24 +147,32 @@ public final class RandomRunsTest {
         code(p, Code.OPS.indexOf(op), arg);
     }
 
-    private void compareTenants() {
-        for (int t = -1; t <= 4; t++) {
-            due("state(" + t + ")", host.state(t), model.state(t));
-            due("steps(" + t + ")", host.steps(t), model.steps(t));
-            due("used(" + t + ")", host.used(t), model.used(t));
-            due("live(" + t + ")", host.live(t), model.live(t));
-            due("collections(" + t + ")", host.collections(t), model.collections(t));
-            due("ended(" + t + ")", host.ended(t), model.ended(t));
-            due("messages(" + t + ")", host.messages(t), model.messages(t));
-            int k = random.nextInt(20) - 2;
-            due("output(" + t + ", " + k + ")", host.output(t, k), model.output(t, k));
-            due("output(" + t + ", -1)", host.output(t, -1), model.output(t, -1));
-            k = random.nextInt(6) - 2;
-            due("local(" + t + ", " + k + ")", host.local(t, k), model.local(t, k));
-            int path = random.nextInt();
-            int n = random.nextInt(8) == 0 ? random.nextInt(36) - 2 : random.nextInt(5);
-            due("look(" + t + ", " + path + ", " + n + ")", host.look(t, path, n), model.look(t, path, n));
+    private void ask(int t, int question) {
+        switch (question) {
+            case 0: due("state(" + t + ")", host.state(t), model.state(t)); break;
+            case 1: due("steps(" + t + ")", host.steps(t), model.steps(t)); break;
+            case 2: due("used(" + t + ")", host.used(t), model.used(t)); break;
+            case 3: due("live(" + t + ")", host.live(t), model.live(t)); break;
+            case 4: due("collections(" + t + ")", host.collections(t), model.collections(t)); break;
+            case 5: due("ended(" + t + ")", host.ended(t), model.ended(t)); break;
+            case 6: due("messages(" + t + ")", host.messages(t), model.messages(t)); break;
+            case 7: output(t, -1); break;
+            case 8: output(t, random.nextInt(20) - 2); break;
+            case 9: local(t, random.nextInt(6) - 2); break;
+            default: look(t, random.nextInt(), random.nextInt(8) == 0 ? random.nextInt(36) - 2 : random.nextInt(5)); break;
         }
+    }
+
+    private void output(int t, int k) {
+        due("output(" + t + ", " + k + ")", host.output(t, k), model.output(t, k));
+    }
+
+    private void local(int t, int k) {
+        due("local(" + t + ", " + k + ")", host.local(t, k), model.local(t, k));
+    }
+
+    private void look(int t, int path, int n) {
+        due("look(" + t + ", " + path + ", " + n + ")", host.look(t, path, n), model.look(t, path, n));
     }
 
     /**

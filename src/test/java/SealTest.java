@@ -1,168 +1,148 @@
-/** Promises 4 (seal) and 5 (shape), with the rules of SEALING. */
+/** Promises 4 (seal) and 5 (shape); the rules that seal looks at are SealingTest's. */
 public final class SealTest {
-    private static final String SIX = "PUSH 1, PUSH 2, PUSH 3, PUSH 4, PUSH 5, PUSH 6";
-
     public static void main(String[] args) {
-        everyOpFindsItsTypes();
-        everyOpRefusesOtherTypes();
-        atMostSixValuesAreLeft();
-        positionsAfterAreOfTheProgram();
-        stacksMayNotDiffer();
-        onlyWhatIsReachedIsLookedAt();
-        sealRefusesWrongInputs();
+        sealNeedsAProgram();
+        sealIsOnce();
+        sealIsForGood();
+        sealNeedsAnInstruction();
         refusedStaysOpen();
+        refusedStaysAsItIs();
         shapesTellTypesFromTheLowest();
+        shapeOfAnEmptyStack();
+        shapeOfSixValues();
+        shapeWhereWaysMeet();
         shapesOfEveryOp();
-        shapeRefusesWrongInputs();
+        shapeOfWhatIsNotReached();
+        shapeNeedsAProgram();
+        shapeNeedsAPosition();
+        shapeNeedsASealedProgram();
         Check.done();
     }
 
-    private static void sound(String text) {
-        Check.yes("seal of " + text, Code.canSeal(text));
-    }
-
-    private static void broken(String text) {
-        Check.no("seal of " + text, Code.canSeal(text));
-    }
-
-    private static void everyOpFindsItsTypes() {
-        String[] texts = {
-            "HALT", "PUSH 1, HALT", "PUSH 1, PUSH 2, ADD, HALT", "LOAD 0, STORE 1, HALT", "LOAD 3, STORE 2, HALT",
-            "LOAD 1, STORE 0, HALT", "LOAD 2, STORE 3, HALT", "NIL, DUP, SAME, POP, HALT", "PUSH 1, DUP, ADD, HALT",
-            "NIL, POP, HALT", "PUSH 1, NEW, GET 0, NEW, GET 1, GET 2, STORE 2, HALT",
-            "NIL, PUSH 1, SET 0, NIL, NIL, SET 1, NIL, NIL, SET 2, HALT", "SHARED 0, GET 0, POP, HALT",
-            "NIL, SEND 0, OUT, HALT", "RECEIVE, GET 0, OUT, HALT", "PUSH 1, START 0, OUT, HALT", "STOP 0, OUT, HALT",
-            "IN, OUT, HALT", "IN, ZERO 2, HALT", "JUMP 0"};
-        for (String text : texts) {
-            sound(text);
-        }
-    }
-
-    private static void everyOpRefusesOtherTypes() {
-        String[] takingTwoNumbers = {"ADD", "SUB", "MUL", "DIV", "LESS"};
-        for (String op : takingTwoNumbers) {
-            broken(op + ", HALT");
-            broken("PUSH 1, " + op + ", HALT");
-            broken("PUSH 1, NIL, " + op + ", HALT");
-            broken("NIL, PUSH 1, " + op + ", HALT");
-            broken("NIL, NIL, " + op + ", HALT");
-            sound("NIL, PUSH 1, PUSH 1, " + op + ", HALT");
-        }
-        String[] takingANumber = {"STORE 0", "STORE 1", "NEW", "ZERO 0", "OUT", "START 1"};
-        for (String op : takingANumber) {
-            broken(op + ", HALT");
-            broken("NIL, " + op + ", HALT");
-        }
-        String[] takingAReference = {"STORE 2", "STORE 3", "GET 0", "GET 1", "GET 2", "SEND 1"};
-        for (String op : takingAReference) {
-            broken(op + ", HALT");
-            broken("PUSH 1, " + op + ", HALT");
-        }
-        String[] others = {
-            "DUP, HALT", "POP, HALT", "NIL, SAME, HALT", "NIL, PUSH 1, SAME, HALT", "PUSH 1, NIL, SAME, HALT",
-            "PUSH 1, SET 0, HALT", "NIL, SET 1, HALT", "NIL, NIL, SET 0, HALT", "PUSH 1, NIL, SET 0, HALT",
-            "NIL, PUSH 1, SET 1, HALT", "NIL, PUSH 1, SET 2, HALT", "PUSH 1, NIL, SET 1, HALT",
-            "PUSH 1, NIL, SET 2, HALT", "PUSH 1, PUSH 1, SET 0, HALT"};
-        for (String text : others) {
-            broken(text);
-        }
-    }
-
-    private static void atMostSixValuesAreLeft() {
-        sound(SIX + ", HALT");
-        sound(SIX + ", ADD, PUSH 1, HALT");
-        sound(SIX + ", NEW, HALT");
-        sound("NIL, NIL, NIL, NIL, NIL, NIL, HALT");
-        String[] puttingOne = {
-            "PUSH 1", "LOAD 0", "LOAD 2", "DUP", "NIL", "SHARED 0", "IN", "RECEIVE", "STOP 0"};
-        for (String op : puttingOne) {
-            broken(SIX + ", " + op + ", HALT");
-            broken(SIX + ", " + op + ", POP, HALT");
-            sound(SIX + ", POP, " + op + ", HALT");
-        }
-        broken("NIL, NIL, NIL, NIL, NIL, NIL, NIL, HALT");
-    }
-
-    private static void positionsAfterAreOfTheProgram() {
-        broken("PUSH 1");
-        broken("JUMP 1");
-        broken("JUMP 23");
-        broken("PUSH 1, ZERO 0");
-        broken("PUSH 1, ZERO 3, HALT");
-        sound("PUSH 1, ZERO 2, HALT");
-        sound("JUMP 1, HALT");
-        sound("PUSH 1, POP, JUMP 0");
-        StringBuilder full = new StringBuilder("JUMP 23");
-        for (int i = 1; i < 24; i++) {
-            full.append(i < 23 ? ", POP" : ", HALT");
-        }
-        sound(full.toString());
-        sound("PUSH 1, POP, ".repeat(11) + "PUSH 1, HALT");
-        broken("PUSH 1, POP, ".repeat(11) + "PUSH 1, ZERO 0");
-        sound("IN, ZERO 0, ".repeat(11) + "NIL, HALT");
-    }
-
-    private static void stacksMayNotDiffer() {
-        broken("PUSH 1, JUMP 0");
-        broken("PUSH 1, ZERO 3, PUSH 1, HALT");
-        broken("IN, ZERO 4, PUSH 1, JUMP 5, NIL, POP, HALT");
-        sound("IN, ZERO 4, PUSH 1, JUMP 5, PUSH 2, POP, HALT");
-        broken("IN, ZERO 5, PUSH 1, NIL, JUMP 7, NIL, PUSH 1, POP, POP, HALT");
-        sound("PUSH 1, ZERO 0, JUMP 0");
-        broken("PUSH 1, PUSH 1, ZERO 0, POP, JUMP 0");
-    }
-
-    private static void onlyWhatIsReachedIsLookedAt() {
-        sound("HALT, POP");
-        sound("HALT, JUMP 23, ZERO 23, ADD");
-        sound("JUMP 2, POP, HALT, JUMP 9");
-        broken("JUMP 2, HALT, POP, HALT");
-    }
-
-    private static void sealRefusesWrongInputs() {
+    private static void sealNeedsAProgram() {
+        Check.says("False when there is no program p");
         TenantHost host = new TenantHost(8);
-        int[] noPrograms = {-1, 4, Integer.MIN_VALUE, Integer.MAX_VALUE};
-        for (int p : noPrograms) {
+        for (int p = 0; p < 4; p++) {
+            Code.write(host, p, "HALT");
+        }
+        for (int p : Check.NOT_0_TO_3) {
             Check.no("seal of program " + p, host.seal(p));
         }
-        Check.no("seal of an empty program", host.seal(0));
-        Code.sealed(host, 0, "HALT");
+        for (int p = 0; p < 4; p++) {
+            Check.due("program " + p + " is open still", host.code(p, 0, 0), 1);
+            Check.yes("seal of program " + p, host.seal(p));
+        }
+    }
+
+    private static void sealIsOnce() {
+        Check.says("False when it is sealed already");
+        TenantHost host = new TenantHost(8);
+        Code.sealed(host, 0, "PUSH 1, HALT");
         Check.no("seal of a sealed program", host.seal(0));
-        Check.due("it is sealed still", host.shape(0, 0), 1);
+        Check.due("it is sealed still", host.shape(0, 1), 2);
+        Check.due("the other programs are not", host.shape(1, 0), -1);
+    }
+
+    private static void sealIsForGood() {
+        Check.says("may be SEALED, which is for good");
+        TenantHost host = new TenantHost(8);
+        Code.launched(host, 0, 1, 10, "PUSH 6, OUT, HALT");
+        host.clear(0);
+        host.code(0, 2, 0);
+        host.seal(0);
+        host.run(1);
+        host.clear(0);
+        Check.due("it ran", host.output(0, 0), 6);
+        host.reserve(1, 1, 10);
+        Check.yes("launch of another with it", host.launch(1, 0));
+        host.run(1);
+        Check.due("it ran again", host.output(1, 0), 6);
+        Check.due("it is sealed still", host.code(0, 0, 0), -1);
+    }
+
+    private static void sealNeedsAnInstruction() {
+        Check.says("A program can be sealed when it has an instruction");
+        TenantHost host = new TenantHost(8);
+        Check.no("seal of an empty program", host.seal(0));
+        Code.write(host, 0, "HALT");
+        host.clear(0);
+        Check.no("seal of a cleared program", host.seal(0));
+        Check.due("it is open", host.code(0, 0, 0), 0);
+        Check.yes("seal of one instruction", host.seal(0));
     }
 
     private static void refusedStaysOpen() {
+        Check.says("it cannot be sealed (it stays open, as it is)");
         TenantHost host = new TenantHost(8);
         Code.write(host, 2, "PUSH 1, ZERO 4, PUSH 7, OUT");
         Check.no("seal", host.seal(2));
+        Check.no("seal again", host.seal(2));
         Check.due("no shape", host.shape(2, 0), -1);
+        host.reserve(0, 1, 10);
+        Check.no("launch", host.launch(0, 2));
         Check.due("it goes on where it was", host.code(2, 0, 0), 4);
         Check.yes("seal of the mended one", host.seal(2));
         Check.due("shape", host.shape(2, 4), 1);
+        Check.yes("launch of the mended one", host.launch(0, 2));
+        host.run(1);
+        Check.due("what it does", host.output(0, 0), 7);
+    }
+
+    private static void refusedStaysAsItIs() {
+        Check.says("it cannot be sealed (it stays open, as it is)");
+        TenantHost host = new TenantHost(8);
         Code.write(host, 1, "PUSH 1, ADD, NIL, HALT");
         Check.no("seal", host.seal(1));
         Check.yes("clear", host.clear(1));
-        Code.sealed(host, 1, "HALT, NIL");
+        Code.sealed(host, 1, "HALT, NIL, HALT");
+        Check.due("position 0", host.shape(1, 0), 1);
         Check.due("nothing is left of the one that was refused", host.shape(1, 1), 0);
+        Check.due("nothing is left of the one that was refused", host.shape(1, 2), 0);
+        Check.due("nor its fourth position", host.shape(1, 3), -1);
+    }
+
+    private static void shapes(int p, TenantHost host, int... shapes) {
+        for (int i = 0; i < shapes.length; i++) {
+            Check.due("shape(" + p + ", " + i + ")", host.shape(p, i), shapes[i]);
+        }
     }
 
     private static void shapesTellTypesFromTheLowest() {
+        Check.says("1, and for each of its values from the lowest on, twice that and 1 more if it is R");
         TenantHost host = new TenantHost(8);
-        Code.sealed(host, 0, "PUSH 1, NIL, PUSH 2, NIL, NIL, PUSH 3, HALT, HALT");
-        int[] shapes = {1, 2, 5, 10, 21, 43, 86, 0};
-        for (int i = 0; i < shapes.length; i++) {
-            Check.due("shape of position " + i, host.shape(0, i), shapes[i]);
-        }
-        Code.sealed(host, 1, "NIL, NIL, NIL, NIL, NIL, NIL, HALT");
-        Check.due("six references", host.shape(1, 6), 127);
-        Code.sealed(host, 2, "IN, ZERO 5, NIL, JUMP 7, POP, NIL, JUMP 7, SEND 1, HALT");
-        int[] joined = {1, 2, 1, 3, 0, 1, 3, 3, 2};
-        for (int i = 0; i < joined.length; i++) {
-            Check.due("shape of position " + i + " where two ways meet", host.shape(2, i), joined[i]);
+        Code.sealed(host, 0, "PUSH 1, NIL, PUSH 2, NIL, NIL, PUSH 3, HALT");
+        shapes(0, host, 1, 2, 5, 10, 21, 43, 86);
+    }
+
+    private static void shapeOfAnEmptyStack() {
+        Check.says("With what stack (what its instruction finds) position i is reached: 1");
+        TenantHost host = new TenantHost(8);
+        for (int p = 0; p < 4; p++) {
+            Code.sealed(host, p, "PUSH 1, POP, HALT");
+            shapes(p, host, 1, 2, 1, -1);
         }
     }
 
+    private static void shapeOfSixValues() {
+        Check.says("1, and for each of its values from the lowest on, twice that and 1 more if it is R");
+        TenantHost host = new TenantHost(8);
+        Code.sealed(host, 1, "NIL, NIL, NIL, NIL, NIL, NIL, HALT");
+        shapes(1, host, 1, 3, 7, 15, 31, 63, 127);
+        Code.sealed(host, 2, "IN, IN, IN, IN, IN, IN, HALT");
+        shapes(2, host, 1, 2, 4, 8, 16, 32, 64);
+    }
+
+    private static void shapeWhereWaysMeet() {
+        Check.says("With what stack position i of the sealed program p is reached");
+        TenantHost host = new TenantHost(8);
+        Code.sealed(host, 2, "IN, ZERO 5, NIL, JUMP 7, POP, NIL, JUMP 7, SEND 1, HALT");
+        shapes(2, host, 1, 2, 1, 3, 0, 1, 3, 3, 2);
+        Code.sealed(host, 3, "JUMP 3, OUT, HALT, NIL, IN, JUMP 1");
+        shapes(3, host, 1, 6, 3, 1, 3, 6);
+    }
+
     private static void shapesOfEveryOp() {
+        Check.says("the positions after it are reached with the stack that it leaves");
         shapeAfter("PUSH 1", 2);
         shapeAfter("PUSH 1, PUSH 1, ADD", 2);
         shapeAfter("PUSH 1, PUSH 1, SUB", 2);
@@ -203,19 +183,45 @@ public final class SealTest {
         Check.due("shape after " + text, host.shape(0, text.split(",").length), shape);
     }
 
-    private static void shapeRefusesWrongInputs() {
+    private static void shapeOfWhatIsNotReached() {
+        Check.says("0 when it is not reached");
+        TenantHost host = new TenantHost(8);
+        Code.sealed(host, 0, "PUSH 1, JUMP 3, POP, HALT, HALT, ADD");
+        shapes(0, host, 1, 2, 0, 2, 0, 0, -1);
+    }
+
+    private static void shapeNeedsAProgram() {
+        Check.says("-1 when there is no such program");
+        TenantHost host = new TenantHost(8);
+        for (int p = 0; p < 4; p++) {
+            Code.sealed(host, p, "HALT");
+        }
+        for (int p : Check.NOT_0_TO_3) {
+            Check.due("shape(" + p + ", 0)", host.shape(p, 0), -1);
+        }
+    }
+
+    private static void shapeNeedsAPosition() {
+        Check.says("-1 when there is no such position");
         TenantHost host = new TenantHost(8);
         Code.sealed(host, 0, "PUSH 1, HALT, HALT");
-        Code.write(host, 1, "PUSH 1, HALT");
-        Check.due("shape of a position not reached", host.shape(0, 2), 0);
-        Check.due("shape of a position behind", host.shape(0, 3), -1);
-        Check.due("shape of position 24", host.shape(0, 24), -1);
-        Check.due("shape of position -1", host.shape(0, -1), -1);
-        Check.due("shape of an open program", host.shape(1, 0), -1);
-        int[] noPrograms = {-1, 4, Integer.MIN_VALUE, Integer.MAX_VALUE};
-        for (int p : noPrograms) {
-            Check.due("shape of program " + p, host.shape(p, 0), -1);
-            Check.due("shape of position " + p, host.shape(0, p == 4 ? 5 : p), -1);
+        Code.sealed(host, 1, "PUSH 1, POP, ".repeat(11) + "PUSH 1, HALT");
+        int[] none = {3, 4, 23, 24, -1, Check.MIN, Check.MAX};
+        for (int i : none) {
+            Check.due("shape(0, " + i + ")", host.shape(0, i), -1);
         }
+        Check.due("the last of 24", host.shape(1, 23), 2);
+        Check.due("behind the last of 24", host.shape(1, 24), -1);
+    }
+
+    private static void shapeNeedsASealedProgram() {
+        Check.says("-1 when it is not sealed");
+        TenantHost host = new TenantHost(8);
+        Check.due("shape of an empty program", host.shape(1, 0), -1);
+        Code.write(host, 1, "PUSH 1, HALT");
+        Check.due("shape of an open program", host.shape(1, 0), -1);
+        Check.due("shape of an open program", host.shape(1, 1), -1);
+        host.seal(1);
+        Check.due("shape of a sealed program", host.shape(1, 1), 2);
     }
 }
