@@ -3,6 +3,7 @@ public final class OtherTenantTest {
     public static void main(String[] args) {
         startLaunches();
         startedOneBeginsInItsSlice();
+        startWithItsOwnProgram();
         startWithNoProgram();
         startWithAnOpenProgram();
         startOfOneNotReserved();
@@ -70,6 +71,16 @@ public final class OtherTenantTest {
         Check.due("the slice of the other comes later", host.steps(0), 0);
         host.run(2);
         Check.due("its slice", host.steps(0), 4);
+    }
+
+    private static void startWithItsOwnProgram() {
+        Check.says("tenant arg is launched with the program whose number was taken");
+        TenantHost host = master();
+        host.reserve(2, 1, 50);
+        puts(1, host, "PUSH 1, START 2");
+        host.run(1);
+        Check.due("the other may not start itself", host.state(2), 10);
+        Check.due("steps", host.steps(2), 2);
     }
 
     private static void startWithNoProgram() {

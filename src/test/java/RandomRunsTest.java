@@ -89,13 +89,19 @@ public final class RandomRunsTest {
         for (int b = 0; b < 4; b++) {
             permit(t, b, random.nextInt(8) == 0 ? random.nextInt(8) : 7);
         }
+        if (random.nextInt(8) != 0) {
+            reserve(t);
+        }
+        if (random.nextInt(4) != 0) {
+            launch(t, random.nextInt(4));
+        }
+    }
+
+    private void reserve(int t) {
         int cells = random.nextInt(4) == 0 ? random.nextInt(28) - 1 : random.nextInt(9) + 1;
         int steps = random.nextInt(10) == 0 ? random.nextInt(4000) - 400 : random.nextInt(600);
         due("reserve(" + t + ", " + cells + ", " + steps + ")", host.reserve(t, cells, steps),
             model.reserve(t, cells, steps));
-        if (random.nextInt(4) != 0) {
-            launch(t, random.nextInt(4));
-        }
     }
 
     private void permit(int a, int b, int what) {
@@ -108,7 +114,7 @@ public final class RandomRunsTest {
 
     private void anyCall() {
         int t = nearly(4);
-        switch (random.nextInt(14)) {
+        switch (random.nextInt(15)) {
             case 0: share(); break;
             case 1: permit(t, nearly(4), nearly(8)); break;
             case 2: launch(t, nearly(4)); break;
@@ -119,6 +125,7 @@ public final class RandomRunsTest {
             case 7:
             case 8: feed(t, anyNumber()); break;
             case 9: runSlices(random.nextInt(5) == 0 ? random.nextInt(210) - 5 : random.nextInt(30)); break;
+            case 10: reserve(t); break;
             default: runSlices(random.nextInt(6)); break;
         }
     }
